@@ -17,8 +17,8 @@ public final class GooseTrain {
     private final Strip[] rows = new Strip[ROWS];
     private final Strip[] texts = new Strip[TEXTS];
     private final Village village = new Village();
+    /** As none is kept without PEOPLE, one that has none is missing. */
     private final Village[] kept = new Village[KEPT];
-    private final boolean[] keptThere = new boolean[KEPT];
     private final Food food = new Food();
     private final Orders lines = new Orders();
     private final int[] findingCounts = new int[SIZE + 1];
@@ -170,7 +170,9 @@ public final class GooseTrain {
             return STATE;
         }
         Reader.settle(texts[t], village);
-        Arrays.fill(keptThere, false);
+        for (int k = 0; k < KEPT; k++) {
+            kept[k].people = 0;
+        }
         return village.people;
     }
 
@@ -295,7 +297,7 @@ public final class GooseTrain {
             return BAD;
         }
         rows[r].layOut(0, 0);
-        addHangers(rows[r], GOOSE, 0);
+        addHangers(village, rows[r], GOOSE, 0);
         return rows[r].size;
     }
 
@@ -307,7 +309,6 @@ public final class GooseTrain {
             return STATE;
         }
         kept[k].become(village);
-        keptThere[k] = true;
         return village.deeds;
     }
 
@@ -315,7 +316,7 @@ public final class GooseTrain {
         if (!isKept(k)) {
             return BAD;
         }
-        if (!keptThere[k]) {
+        if (kept[k].people == 0) {
             return found(NOTHING);
         }
         village.become(kept[k]);
@@ -545,7 +546,7 @@ public final class GooseTrain {
             }
         }
         for (int k = 0; k < KEPT; k++) {
-            h = 31L * h + (keptThere[k] ? kept[k].deeds : -1);
+            h = 31L * h + (kept[k].people == 0 ? -1 : kept[k].deeds);
         }
         for (int r = 0; r < ROWS; r++) {
             h = rows[r].mixInto(h);
@@ -639,7 +640,7 @@ public final class GooseTrain {
     private int keptCount() {
         int there = 0;
         for (int k = 0; k < KEPT; k++) {
-            if (keptThere[k]) {
+            if (kept[k].people != 0) {
                 there++;
             }
         }
@@ -647,7 +648,7 @@ public final class GooseTrain {
     }
 
     /** Adds all who HANG ON y, each followed by those behind; a train is never deeper than its people. */
-    private void addHangers(Strip row, int y, int depth) {
+    private static void addHangers(Village village, Strip row, int y, int depth) {
         if (depth >= MOST_PEOPLE) {
             return;
         }
@@ -655,7 +656,7 @@ public final class GooseTrain {
         for (int x = 0; x < MOST_PEOPLE; x++) {
             if ((set >> x & 1) != 0) {
                 row.add(x);
-                addHangers(row, x, depth + 1);
+                addHangers(village, row, x, depth + 1);
             }
         }
     }

@@ -13,7 +13,9 @@ public final class ModelTest {
         -1, 8, 9, -9, 10, 40, 41, 60, 61, 99, 100, 400, 401, Integer.MAX_VALUE, Integer.MIN_VALUE, 2147483646
     };
     /** Calls that make a run go on are tried more often than one in all. */
-    private static final String[] OFTEN = {"touch", "touch", "touch", "touch", "laugh", "days", "lay", "undo", "keep", "on", "lots"};
+    private static final String[] OFTEN = {
+        "touch", "touch", "touch", "touch", "laugh", "days", "lay", "undo", "keep", "on", "lots", "mark"
+    };
 
     private final Random random;
     private final GooseTrain goose = new GooseTrain();

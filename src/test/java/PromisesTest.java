@@ -303,6 +303,12 @@ public final class PromisesTest {
         due("princess as sour: depth 1 of 3", h.mark(0, 2), 2);
         due("sour: 2 of 3", h.mark(1, 2), 1);
         due("cook, free", h.mark(4, 5), 0);
+
+        GooseTrain c = Checks.village("c1000 o1000 o1000 c1000");
+        due("child, nobody", c.mark(0, 3), 0);
+        Checks.touches(c, "009 100 200");
+        due("on the first child", c.mark(0, 3), 2);
+        due("on the first child, by another", c.mark(3, 3), 2);
     }
 
     // Promise 14
