@@ -2,21 +2,27 @@
 final class Checks {
     private static int wrong = 0;
     private static int asked = 0;
+    private static String test = "";
 
     private Checks() {
+    }
+
+    /** Names the test that the next answers belong to. */
+    static void inTest(String name) {
+        test = name + ": ";
     }
 
     static void due(String call, long got, long want) {
         asked++;
         if (got != want) {
             wrong++;
-            System.out.println(call + " answered " + got + ", due is " + want);
+            System.out.println(test + call + " answered " + got + ", due is " + want);
         }
     }
 
     static void fail(String what) {
         wrong++;
-        System.out.println(what);
+        System.out.println(test + what);
     }
 
     static int wrongSoFar() {
