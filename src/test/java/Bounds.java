@@ -66,9 +66,7 @@ final class Bounds {
     /** A village in which so many DEEDS have been done: 0 HANGS ON THE GOOSE, then days of none go by. */
     static GooseTrain worn(int deeds) {
         GooseTrain g = train("o1400 o1400 g1400 k1400 c1000", "009");
-        while (g.count(1) < deeds) {
-            g.days(0);
-        }
+        Checks.wear(g, deeds);
         return g;
     }
 

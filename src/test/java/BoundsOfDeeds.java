@@ -195,8 +195,8 @@ final class BoundsOfDeeds {
 
     private static GooseTrain late(int day) {
         GooseTrain g = Bounds.train("c1000 o1000", "109");
-        while (g.count(2) < day) {
-            g.days(Math.min(400, day - g.count(2)));
+        for (int left = day; left > 0; left -= 400) {
+            g.days(Math.min(400, left));
         }
         return g;
     }
@@ -483,6 +483,37 @@ final class BoundsOfDeeds {
         due("undo", g.undo(1), 2);
         due("STUCK", g.stuck(), 1);
         due("DAY", g.count(2), 0);
+    }
+
+    static void promise24_itsTouchesAreNotThoseDoneLater() {
+        GooseTrain g = Bounds.train("o1000 o1000 o1000 o1000", "119 201 312");
+        g.keep(1);
+        g.undo(0);
+        Checks.touches(g, "209 112 301");
+        due("on", g.on(1), 3);
+        due("undo", g.undo(2), 1);
+        due("1 on THE GOOSE", Bounds.fact(g, 1, 3), GOOSE);
+        due("1 by HAND 1", Bounds.fact(g, 1, 4), 1);
+        due("2 on 1", Bounds.fact(g, 2, 3), 1);
+        due("2 by HAND 0", Bounds.fact(g, 2, 4), 0);
+        due("STUCK", g.stuck(), 2 + 4);
+    }
+
+    static void promise24_itsDeedsAreNotOfTheKindOfThoseDoneLater() {
+        GooseTrain g = Bounds.train("o1000 c1000 o1000", "109 211");
+        g.laugh(1);
+        g.days(2);
+        g.keep(1);
+        g.undo(0);
+        g.days(5);
+        Checks.touches(g, "209 102");
+        g.days(6);
+        due("on", g.on(1), 4);
+        due("undo", g.undo(3), 1);
+        due("DAY", g.count(2), 0);
+        due("STUCK", g.stuck(), 0);
+        due("undo the laugh", g.undo(2), 1);
+        due("STUCK again", g.stuck(), 2 + 4);
     }
 
     static void promise24_staysKept() {

@@ -450,11 +450,17 @@ final class BoundsOfOrders {
         due("all STUCK", g.stuck(), 127);
     }
 
+    static void promise42_theOnlyTouchThereIsIsDone() {
+        GooseTrain g = Bounds.village("g1000");
+        due("one way", g.ways(), 1);
+        due("lots", g.lots(1, 3), 1);
+        due("STUCK", g.stuck(), 1);
+        due("by HAND 1", Bounds.fact(g, 0, 4), 1);
+    }
+
     static void promise42_fullIsAskedEvenWhereThereIsNone() {
         GooseTrain g = seven(CHAIN);
-        while (g.count(1) < 60) {
-            g.days(0);
-        }
+        Checks.wear(g, 60);
         due("full", g.lots(1, 1), FULL);
     }
 

@@ -58,6 +58,14 @@ final class Checks {
         }
     }
 
+    /** Days of none go by till so many DEEDS are done; a class that refuses them fails, and does not hang. */
+    static void wear(GooseTrain goose, int deeds) {
+        for (int i = 0; i < 60 && goose.count(1) < deeds; i++) {
+            goose.days(0);
+        }
+        due("DEEDS", goose.count(1), deeds);
+    }
+
     static void dueRow(GooseTrain goose, String call, int r, int... want) {
         for (int i = 0; i < want.length; i++) {
             due(call + ": at(" + r + ", " + i + ")", goose.at(r, i), 1);

@@ -1,8 +1,4 @@
-import java.lang.reflect.InvocationTargetException;
 import java.lang.reflect.Method;
-import java.util.ArrayList;
-import java.util.Arrays;
-import java.util.Comparator;
 import java.util.List;
 import java.util.Random;
 
@@ -18,22 +14,14 @@ public final class ModelTest {
     };
 
     private final Random random;
-    private final GooseTrain goose = new GooseTrain();
-    private final Model model = new Model();
-    private final StringBuilder run = new StringBuilder();
+    private final Twin twin = new Twin();
 
     private ModelTest(long seed) {
         random = new Random(seed);
     }
 
     public static void main(String[] args) throws ReflectiveOperationException {
-        List<Method> calls = new ArrayList<>();
-        for (Method m : GooseTrain.class.getDeclaredMethods()) {
-            if (java.lang.reflect.Modifier.isPublic(m.getModifiers())) {
-                calls.add(m);
-            }
-        }
-        calls.sort(Comparator.comparing(Method::getName));
+        List<Method> calls = Twin.calls();
         for (int seed = 0; seed < RUNS && Checks.wrongSoFar() < MOST_WRONG; seed++) {
             new ModelTest(seed).go(calls);
         }
@@ -51,15 +39,9 @@ public final class ModelTest {
             } else {
                 callOne(pick(calls));
             }
-            dueSame("asked", goose.asked(), model.asked());
-            dueSame("upper", goose.upper(), model.upper());
-            dueSame("lower", goose.lower(), model.lower());
-            dueSame("finding", goose.finding(), model.finding());
-            dueSame("digest", goose.digest(), model.digest());
+            twin.dueSameState();
         }
-        for (int f = 1; f <= 5; f++) {
-            dueSame("findings " + f, goose.findings(f), model.findings(f));
-        }
+        twin.dueSameFindings();
     }
 
     private Method pick(List<Method> calls) {
@@ -80,15 +62,7 @@ public final class ModelTest {
         for (int i = 0; i < numbers.length; i++) {
             numbers[i] = number(call.getName(), i);
         }
-        run.append(' ').append(call.getName()).append(Arrays.toString(numbers));
-        Method other = Model.class.getDeclaredMethod(call.getName(), call.getParameterTypes());
-        try {
-            Number got = (Number) call.invoke(goose, numbers);
-            Number want = (Number) other.invoke(model, numbers);
-            dueSame(call.getName(), got.longValue(), want.longValue());
-        } catch (InvocationTargetException e) {
-            Checks.fail(run + " threw " + e.getCause());
-        }
+        twin.call(call, numbers);
     }
 
     private int number(String call, int place) {
@@ -109,7 +83,7 @@ public final class ModelTest {
             case "nth":
                 return place == 0 ? random.nextInt(40) : random.nextInt(6);
             case "undo":
-                return random.nextInt(Math.max(1, model.count(1) + 1));
+                return random.nextInt(Math.max(1, twin.deeds() + 1));
             case "village":
                 return random.nextInt(8) == 0 ? random.nextInt(4) : 3;
             case "text":
@@ -147,16 +121,6 @@ public final class ModelTest {
         if (random.nextInt(20) == 0) {
             text.setLength(random.nextInt(text.length()));
         }
-        run.append(" village '").append(text).append("'");
-        dueSame("text", goose.text(3, text.length()), model.text(3, text.length()));
-        for (int i = 0; i < text.length(); i++) {
-            dueSame("put", goose.put(3, i, text.charAt(i)), model.put(3, i, text.charAt(i)));
-        }
-        dueSame("fault", goose.fault(3), model.fault(3));
-        dueSame("village", goose.village(3), model.village(3));
-    }
-
-    private void dueSame(String call, long got, long want) {
-        Checks.due(got == want ? "" : run + ": " + call, got, want);
+        twin.settle(3, text.toString());
     }
 }

@@ -342,9 +342,7 @@ public final class PromisesTest {
         due("whom -9", g.touch(3, 0, -9), BAD);
         due("who 4", g.touch(4, 0, 9), BAD);
         due("who 9", g.touch(9, 0, 9), BAD);
-        while (g.count(1) < 60) {
-            g.days(0);
-        }
+        Checks.wear(g, 60);
         due("full", g.touch(3, 0, 9), FULL);
         due("full, a glove by hand 0", g.touch(2, 0, 9), FULL);
         due("state ahead of full", g.touch(0, 0, 9), STATE);
@@ -377,9 +375,7 @@ public final class PromisesTest {
         duePersonDays(g, 4, 0);
         duePersonDays(g, 0, 368);
         g.touch(3, 0, 9);
-        while (g.count(1) < 60) {
-            g.days(0);
-        }
+        Checks.wear(g, 60);
         due("full", g.laugh(3), FULL);
         due("state ahead of full", g.laugh(4), STATE);
     }
@@ -405,9 +401,7 @@ public final class PromisesTest {
         due("to 9999", g.days(399), 9999);
         due("above 9999 by 1", g.days(1), FULL);
         due("0 at 9999", g.days(0), 9999);
-        while (g.count(1) < 60) {
-            g.days(0);
-        }
+        Checks.wear(g, 60);
         due("60 deeds", g.days(0), FULL);
     }
 
