@@ -70,7 +70,7 @@ public final class EdgesTest {
                 break;
             case 1:
                 twin.settle(0, "  ");
-                twin.call(named("row"), 0, 40);
+                twin.call(Twin.named("row"), 0, 40);
                 break;
             case 2:
                 busy();
@@ -79,7 +79,7 @@ public final class EdgesTest {
                 twin.settle(3, "o1400 o1400 g1400 k1400 c1000");
                 touch(0, 0, 9);
                 for (int i = 1; i < 60; i++) {
-                    twin.call(named("days"), i < 26 ? 400 : 0);
+                    twin.call(Twin.named("days"), i < 26 ? 400 : 0);
                 }
                 break;
             case 4:
@@ -98,32 +98,23 @@ public final class EdgesTest {
 
     private void busy() throws ReflectiveOperationException {
         twin.settle(0, "o3400 g2365 s2500 c1010 p2999 k4364 o1365");
-        twin.call(named("row"), 0, 4);
-        twin.call(named("lay"), 0, 0, 3);
-        twin.call(named("lay"), 0, 1, 1);
-        twin.call(named("row"), 1, 5);
-        twin.call(named("row"), 4, 0);
-        twin.call(named("text"), 3, 60);
+        twin.call(Twin.named("row"), 0, 4);
+        twin.call(Twin.named("lay"), 0, 0, 3);
+        twin.call(Twin.named("lay"), 0, 1, 1);
+        twin.call(Twin.named("row"), 1, 5);
+        twin.call(Twin.named("row"), 4, 0);
+        twin.call(Twin.named("text"), 3, 60);
         touch(0, 0, 9);
         touch(1, 1, 0);
-        twin.call(named("keep"), 1);
+        twin.call(Twin.named("keep"), 1);
         touch(5, 1, 0);
         touch(2, 0, 1);
         touch(6, 1, 9);
-        twin.call(named("came"), 0, 0);
-        twin.call(named("at"), 0, 0);
+        twin.call(Twin.named("came"), 0, 0);
+        twin.call(Twin.named("at"), 0, 0);
     }
 
     private void touch(int x, int hand, int y) throws ReflectiveOperationException {
-        twin.call(named("touch"), x, hand, y);
-    }
-
-    private static Method named(String name) {
-        for (Method m : CALLS) {
-            if (m.getName().equals(name)) {
-                return m;
-            }
-        }
-        throw new IllegalArgumentException(name);
+        twin.call(Twin.named("touch"), x, hand, y);
     }
 }

@@ -8,9 +8,14 @@ import java.util.List;
 
 /** One object of the class and one of the model, which get the same calls and have to answer the same. */
 final class Twin {
+    /** For so many calls an object is used. */
+    static final int MOST_CALLS = 512;
+    private static final List<Method> CALLS = calls();
+
     private final GooseTrain goose = new GooseTrain();
     private final Model model = new Model();
     private final StringBuilder run = new StringBuilder();
+    private int made = 0;
 
     /** The calls of the face, by their names. */
     static List<Method> calls() {
@@ -22,6 +27,15 @@ final class Twin {
         }
         calls.sort(Comparator.comparing(Method::getName));
         return calls;
+    }
+
+    static Method named(String name) {
+        for (Method call : CALLS) {
+            if (call.getName().equals(name)) {
+                return call;
+            }
+        }
+        throw new IllegalArgumentException(name);
     }
 
     /** Answers what the class does; -1 if it threw. */
@@ -68,6 +82,15 @@ final class Twin {
         return model.count(1);
     }
 
+    /** How many calls more the document promises to answer. */
+    int left() {
+        return MOST_CALLS - made;
+    }
+
+    int latestFinding() {
+        return model.finding();
+    }
+
     /** Leaves out of what is told of a run the latest calls, from a length of it on. */
     void forget(int from) {
         run.setLength(from);
@@ -78,6 +101,7 @@ final class Twin {
     }
 
     private void dueSame(String call, long got, long want) {
+        made++;
         Checks.due(got == want ? "" : run + ": " + call, got, want);
     }
 }
