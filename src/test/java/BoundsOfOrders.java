@@ -320,6 +320,11 @@ final class BoundsOfOrders {
         due("laughed at 0", Bounds.withRow(0, 1).tastes(0), 0);
     }
 
+    static void promise40_noPairIsMadeOfTwoHalves() {
+        due("laughed at 7 twice", Bounds.withRow(7, 1, 7, 1).tastes(0), 254);
+        due("not at 0, laughed at 1", Bounds.withRow(0, 0, 1, 1).tastes(0), 2);
+    }
+
     static void promise40_twentyPairs() {
         GooseTrain g = new GooseTrain();
         g.row(0, 40);
@@ -378,6 +383,11 @@ final class BoundsOfOrders {
         due("laughed at 2, not at 3", Bounds.withRow(2, 1, 3, 0).sour(0), 0);
         due("laughed at 3, not at 2", Bounds.withRow(3, 1, 2, 0).sour(0), 4);
         due("laughed at 1", Bounds.withRow(1, 1).sour(0), 0);
+    }
+
+    static void promise41_noPairIsMadeOfTwoHalves() {
+        due("not at 0, not at 1", Bounds.withRow(0, 0, 1, 0).sour(0), ALL_TASTES);
+        due("laughed at 2 and at 7", Bounds.withRow(2, 1, 7, 1).sour(0), 2);
     }
 
     static void promise41_aMissingRowIsNothing() {
